@@ -447,7 +447,8 @@ public final class BuiltTwice {
         if ((plan.usedWords[step] >>> word & 1) == 0) {
             return NONE;
         }
-        buildBoth(room, room, step);
+        first.makeIn(words[room], step);
+        second.makeIn(words[room], step);
         for (int v = 0; v <= n; v++) {
             second.turn(word, v);
             second.make(plan.used[step]);
@@ -655,18 +656,32 @@ public final class BuiltTwice {
         /** False if what counts of the joined inputs is too long. */
         private boolean runTool(int s, Row out) {
             int tool = plan.tools[s];
+            int a = plan.as[s];
             int word = words[plan.bs[s]];
             if (tool == PICK) {
-                return out.append(inputRow(s, word < plan.as[s] ? 0 : plan.inputCount[s] - 1));
+                return out.append(inputRow(s, word < a ? 0 : plan.inputCount[s] - 1));
             }
             if (!join(s, out, tool == PACK && (word & 1) != 0)) {
                 return false;
             }
-            if (tool == STAMP) {
-                return out.put(word);
+            switch (tool) {
+                case STAMP:
+                    return out.put(word);
+                case STRIP:
+                    strip(out, a);
+                    return true;
+                case MASK:
+                    mask(out, a);
+                    return true;
+                case SORT:
+                    sort(out);
+                    return true;
+                case SIGN:
+                    sign(out);
+                    return true;
+                default:
+                    return true;
             }
-            rework(tool, out, plan.as[s]);
-            return true;
         }
 
         private boolean join(int s, Row out, boolean lastFirst) {
@@ -677,25 +692,6 @@ public final class BuiltTwice {
                 }
             }
             return true;
-        }
-
-        private void rework(int tool, Row out, int a) {
-            switch (tool) {
-                case STRIP:
-                    strip(out, a);
-                    break;
-                case MASK:
-                    mask(out, a);
-                    break;
-                case SORT:
-                    sort(out);
-                    break;
-                case SIGN:
-                    sign(out);
-                    break;
-                default:
-                    break;
-            }
         }
 
         private static void strip(Row out, int a) {
