@@ -49,6 +49,7 @@ public final class PromisesTest {
         trust();
         heirs();
         count();
+        fullBench();
         refusedCallsChangeNothing();
         System.out.println(checked + " answers looked at, " + wrong + " wrong");
         if (wrong != 0) {
@@ -295,6 +296,7 @@ public final class PromisesTest {
         due("has four, wrong", BAD, x.need(1, 7));
         due("need", 1, x.need(2, 101));
         due("taken and full", NOT, x.need(1, 0));
+        due("taken still", NOT, x.need(0, 0));
     }
 
     private static void made() {
@@ -356,6 +358,8 @@ public final class PromisesTest {
         dueBytes("PICK not less", x, 2, pick, 9);
         dueBytes("PICK by 0", x, 0, stepOf(x, PICK, 0, 3, 0, 1), 9);
         dueBytes("SORT", x, 0, stepOf(x, SORT, 0, 0, 0, 1, 0), 5, 5, 5, 5, 9, 200, 200);
+        textOf(x, 255, 0, 254, 1);
+        dueBytes("SORT from 0 to 255", x, 0, stepOf(x, SORT, 0, 0, 3, 3), 0, 0, 1, 1, 254, 254, 255, 255);
         dueBytes("SIGN of nothing", x, 0, stepOf(x, SIGN, 0, 0, 2), 0, 0, 158, 55);
         int h = (40503 ^ 9) * 16777619;
         dueBytes("SIGN", x, 0, stepOf(x, SIGN, 0, 0, 1), h >>> 24, h >>> 16 & 255, h >>> 8 & 255, h & 255);
@@ -454,11 +458,12 @@ public final class PromisesTest {
         due("uses all", 15, x.uses(d, 0));
         due("uses texts", 4, x.uses(c, 1));
         due("uses texts of all", 5, x.uses(d, 1));
+        due("uses two texts itself", 6, x.uses(stepOf(x, JOIN, 0, 0, 2, 1), 1));
         x.lack(2, 1);
         due("uses lacking ones too", 5, x.uses(d, 1));
         due("uses what 2", BAD, x.uses(d, 2));
         due("uses what -1", BAD, x.uses(d, -1));
-        due("uses no step", BAD, x.uses(4, 0));
+        due("uses no step", BAD, x.uses(5, 0));
         due("uses step -1", BAD, x.uses(-1, 0));
     }
 
@@ -551,6 +556,10 @@ public final class PromisesTest {
         due("other lengths", 0, x.alike(1, 0, 1));
         due("the same", 1, x.alike(0, 2, 0));
         due("itself", 1, x.alike(1, 1, 2));
+        textOf(x);
+        int empty = stepOf(x, PICK, 0, 0, 102, 2);
+        due("no bytes", 0, x.made(1, empty));
+        due("failing is not making no bytes", 0, x.alike(0, 1, empty));
         dueBadPairs("alike", x, b -> x.alike(b[0], b[1], b[2]));
     }
 
@@ -589,6 +598,7 @@ public final class PromisesTest {
         dueChange(x, 0, 0, 0, 100);
         dueChange(x, 199, 0, 199, 149);
         due("200 there are", BAD, x.change(200, 0));
+        due("200 the same", 0, x.changes(0, 0, 2));
         textOf(x);
         stepOf(x, PICK, 1, 0, 100, 2);
         due("all out", 200, x.changes(0, 1, 3));
@@ -687,8 +697,18 @@ public final class PromisesTest {
         x.word(1, 3, 5);
         due("two words", 10, x.fix(0, 1, 1));
         due("one of the two", 2, x.fix(0, 1, 0));
+        x.word(1, 0, 9);
+        due("word 0 of three", 1, x.fix(0, 1, stepOf(x, PICK, 1, 0, 0, 101)));
+        int all = stepOf(x, STAMP, 0, 0, 0);
+        for (int w = 1; w < 8; w++) {
+            x.word(1, w, 100 + w);
+            all = stepOf(x, STAMP, 0, w, 100 + all);
+        }
+        due("all words", 255, x.fix(0, 1, all));
         due("alike", 0, x.fix(0, 2, 1));
         due("one room", 0, x.fix(1, 1, 1));
+        x.word(2, 6, 4);
+        due("a word read is unlike, what is made is not", 0, x.fix(0, 2, stepOf(x, PACK, 0, 6, 0, 1)));
         fixTheLeast();
         dueBadPairs("fix", x, b -> x.fix(b[0], b[1], b[2]));
     }
@@ -794,6 +814,8 @@ public final class PromisesTest {
             x.word(7, w, 2);
         }
         due("fewer, though a greater mask", 0x81, x.rooms(3, 0xA5));
+        due("room 0 told", 1, x.rooms(0, 1));
+        due("all told", 1, x.rooms(0, 255));
         due("set 0", BAD, x.rooms(0, 0));
         due("set 256", BAD, x.rooms(0, 256));
         due("set -1", BAD, x.rooms(0, -1));
@@ -803,6 +825,19 @@ public final class PromisesTest {
         BuiltTwice y = new BuiltTwice();
         readsOfRoom(y);
         due("just what room 0 uses counts", 6, y.rooms(2, 0xFE));
+        roomsAllEight();
+    }
+
+    private static void roomsAllEight() {
+        BuiltTwice x = new BuiltTwice();
+        int s = stepOf(x, STAMP, 0, 0, textOf(x, "a"));
+        x.word(0, 0, 1);
+        for (int w = 1; w < 8; w++) {
+            s = stepOf(x, STAMP, 0, w, 100 + s);
+            x.word(w, w, 1);
+        }
+        due("each word is unlike in one room only", 255, x.rooms(s, 255));
+        due("one of them is not told", NOT, x.rooms(s, 254));
     }
 
     private static void maker() {
@@ -890,6 +925,9 @@ public final class PromisesTest {
         due("one lacking", 1, x.needs(0, 1));
         due("of a seed", 0, x.needs(3, 0));
         due("of the last", 1, x.needs(2, 0));
+        x.maker(0, 1, 2);
+        due("of three", 3, x.needs(0, 0));
+        x.maker(0, 1, 0);
         x.maker(3, 2, 2);
         due("round a ring", 3, x.needs(0, 0));
         due("round a ring, lacking", 2, x.needs(0, 1));
@@ -978,6 +1016,25 @@ public final class PromisesTest {
         for (int v : OUTSIDE) {
             due("count " + v, BAD, x.count(v));
         }
+    }
+
+    private static void fullBench() {
+        BuiltTwice x = new BuiltTwice();
+        for (int t = 0; t < 20; t++) {
+            textOf(x, t);
+        }
+        for (int s = 0; s < 24; s++) {
+            stepOf(x, s < 20 ? JOIN : STAMP, 0, s % 8, s % 20, s < 12 ? 19 : 100 + s - 12, 0, 0);
+        }
+        due("all built", 24, x.built(7));
+        due("made by the last", 8, x.made(7, 23));
+        due("read by the last", 128, x.reads(7, 23, 1));
+        due("used by the last", 1 << 23 | 1 << 11, x.uses(23, 0));
+        due("texts of the last", 1 << 19 | 1 << 11 | 1 << 3 | 1, x.uses(23, 1));
+        due("breaks the last", 1, x.breaks(7, 23, 7));
+        due("orders of the last", 1, x.orders(23));
+        x.lack(19, 1);
+        due("without text 19", 0, x.built(7));
     }
 
     private static void refusedCallsChangeNothing() {
