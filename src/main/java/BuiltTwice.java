@@ -288,15 +288,16 @@ public final class BuiltTwice {
     }
 
     public int ring(int maker, int i) {
-        if (!isMaker(maker) || i < 0) {
+        if (!isMaker(maker)) {
             return BAD;
         }
         int start = makers.ringStart(maker);
+        // "none such" speaks of a ring that there is: without one, no i is looked at
         if (start == SEED) {
             return NOT;
         }
         // from its start, the way goes just once round the ring
-        return i < Integer.bitCount(makers.way(start)) ? makers.after(start, i) : BAD;
+        return i >= 0 && i < Integer.bitCount(makers.way(start)) ? makers.after(start, i) : BAD;
     }
 
     public int needs(int maker, int what) {

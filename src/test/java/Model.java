@@ -444,11 +444,11 @@ final class Model {
     }
 
     int ring(int maker, int i) {
-        if (!in(maker, 0, 29) || i < 0) {
+        if (!in(maker, 0, 29)) {
             return BAD;
         }
         List<Integer> ring = ringOf(maker);
-        return ring.isEmpty() ? NOT : i < ring.size() ? ring.get(i) : BAD;
+        return ring.isEmpty() ? NOT : in(i, 0, ring.size() - 1) ? ring.get(i) : BAD;
     }
 
     int needs(int maker, int what) {

@@ -897,11 +897,17 @@ public final class PromisesTest {
         due("ring from 7, 1", 4, x.ring(7, 1));
         due("ring, far", BAD, x.ring(7, Integer.MAX_VALUE));
         due("ring, -1", BAD, x.ring(7, -1));
+        due("ring, least", BAD, x.ring(7, Integer.MIN_VALUE));
         due("leads to a seed", NOT, x.ring(20, 0));
         due("is a seed", NOT, x.ring(21, 1));
-        due("a seed, -1", BAD, x.ring(21, -1));
+        due("leads to a seed, -1", NOT, x.ring(20, -1));
+        due("a seed, -1", NOT, x.ring(21, -1));
+        due("a seed, least", NOT, x.ring(21, Integer.MIN_VALUE));
+        due("a seed, far", NOT, x.ring(21, Integer.MAX_VALUE));
+        due("a new object's maker, -1", NOT, new BuiltTwice().ring(0, -1));
         due("ring of 30", BAD, x.ring(30, 0));
         due("ring of -1", BAD, x.ring(-1, 0));
+        due("ring of -1, -1", BAD, x.ring(-1, -1));
         for (int m = 0; m < 30; m++) {
             x.maker(m, (m + 29) % 30, 0);
         }
