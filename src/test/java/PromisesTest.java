@@ -1,20 +1,5 @@
 /** Each promise by itself: ordinary inputs, the edges that the document names, and wrong inputs. */
-public final class PromisesTest {
-    private static final int BAD = -1, NOT = -2, FULL = -3, BIG = -4, RING = -5;
-    private static final int[] OUTSIDE = {-1, Integer.MIN_VALUE, Integer.MAX_VALUE};
-    private static final int JOIN = 0, STAMP = 1, PACK = 2, STRIP = 3, MASK = 4, PICK = 5, SORT = 6, SIGN = 7;
-
-    private static int wrong = 0;
-    private static int checked = 0;
-
-    private static void due(String what, long want, long got) {
-        checked++;
-        if (got != want) {
-            wrong++;
-            System.out.println(what + ": answered " + got + ", due is " + want);
-        }
-    }
-
+public final class PromisesTest extends Bench {
     public static void main(String[] args) {
         newObject();
         feed();
@@ -51,63 +36,7 @@ public final class PromisesTest {
         count();
         fullBench();
         refusedCallsChangeNothing();
-        System.out.println(checked + " answers looked at, " + wrong + " wrong");
-        if (wrong != 0) {
-            System.exit(1);
-        }
-    }
-
-    // ---- helpers
-
-    private static void feedAll(BuiltTwice x, int... bytes) {
-        for (int v : bytes) {
-            x.feed(1, v);
-        }
-    }
-
-    private static int textOf(BuiltTwice x, int... bytes) {
-        feedAll(x, bytes);
-        return x.text();
-    }
-
-    private static int textOf(BuiltTwice x, String s) {
-        return textOf(x, s.chars().toArray());
-    }
-
-    private static int textOfLength(BuiltTwice x, int n) {
-        for (int i = 0; i < n; i++) {
-            x.feed(1, i);
-        }
-        return x.text();
-    }
-
-    private static int stepOf(BuiltTwice x, int tool, int a, int b, int... inputs) {
-        int s = x.step(tool, a, b);
-        for (int input : inputs) {
-            x.need(s, input);
-        }
-        return s;
-    }
-
-    private static void dueBytes(String what, BuiltTwice x, int room, int step, int... bytes) {
-        due(what + " length", bytes.length, x.made(room, step));
-        for (int i = 0; i < bytes.length; i++) {
-            due(what + " byte " + i, bytes[i], x.at(room, step, i));
-        }
-        due(what + " behind its end", BAD, x.at(room, step, bytes.length));
-    }
-
-    private static void dueChange(BuiltTwice x, int i, int kind, int place, int comes) {
-        due("change " + i + " kind", kind, x.change(i, 0));
-        due("change " + i + " place", place, x.change(i, 1));
-        due("change " + i + " byte", comes, x.change(i, 2));
-    }
-
-    /** Makes the thing of a new PICK step be x in room 0 and y in room 1. */
-    private static int twoThings(BuiltTwice b, String x, String y) {
-        int s = stepOf(b, PICK, 1, 7, textOf(b, x), textOf(b, y));
-        b.word(1, 7, 1);
-        return s;
+        end();
     }
 
     // ---- promises
@@ -433,16 +362,6 @@ public final class PromisesTest {
         due("reads step -1", BAD, x.reads(0, -1, 0));
     }
 
-    private static void readsOfRoom(BuiltTwice x) {
-        // step 0 stamps 1 byte that step 1 strips in room 1 only; step 2 then fits, or does not
-        textOfLength(x, 60);
-        textOfLength(x, 20);
-        stepOf(x, STAMP, 0, 0, 0, 0, 0);
-        stepOf(x, STRIP, 77, 0, 100);
-        stepOf(x, PACK, 0, 5, 101, 1);
-        x.word(1, 0, 77);
-    }
-
     private static void uses() {
         BuiltTwice x = new BuiltTwice();
         textOf(x, "a");
@@ -523,7 +442,7 @@ public final class PromisesTest {
 
     private static void built() {
         BuiltTwice x = new BuiltTwice();
-        readsOfRoom(x);
+        failsInRoom0(x);
         x.step(JOIN, 0, 0);
         due("built in room 0", 2, x.built(0));
         due("built in room 1", 3, x.built(1));
@@ -547,7 +466,7 @@ public final class PromisesTest {
 
     private static void alike() {
         BuiltTwice x = new BuiltTwice();
-        readsOfRoom(x);
+        failsInRoom0(x);
         x.step(STAMP, 0, 0);
         due("one fails", 0, x.alike(0, 1, 2));
         due("both fail", 1, x.alike(0, 1, 3));
@@ -577,7 +496,7 @@ public final class PromisesTest {
         dueBadPairs("changes", x, b -> x.changes(b[0], b[1], b[2]));
 
         BuiltTwice y = new BuiltTwice();
-        readsOfRoom(y);
+        failsInRoom0(y);
         due("fails in the first", NOT, y.changes(0, 1, 2));
         due("fails in the second", NOT, y.changes(1, 0, 2));
         changesOfLongThings();
@@ -680,7 +599,7 @@ public final class PromisesTest {
         dueBadPairs("cause", x, b -> x.cause(b[0], b[1], b[2]));
 
         BuiltTwice y = new BuiltTwice();
-        readsOfRoom(y);
+        failsInRoom0(y);
         due("one fails", 0, y.cause(0, 1, 2));
     }
 
@@ -782,7 +701,7 @@ public final class PromisesTest {
         due("breaks no step", BAD, x.breaks(0, 4, 0));
         due("breaks step -1", BAD, x.breaks(0, -1, 0));
         BuiltTwice y = new BuiltTwice();
-        readsOfRoom(y);
+        failsInRoom0(y);
         due("by not failing", 77, y.breaks(0, 2, 0));
     }
 
@@ -823,7 +742,7 @@ public final class PromisesTest {
         due("rooms step -1", BAD, x.rooms(-1, 1));
 
         BuiltTwice y = new BuiltTwice();
-        readsOfRoom(y);
+        failsInRoom0(y);
         due("just what room 0 uses counts", 6, y.rooms(2, 0xFE));
         roomsAllEight();
     }
