@@ -642,14 +642,14 @@ public final class PromisesTest extends Bench {
         x.word(1, 2, 1);
         x.word(1, 5, 1);
         due("the lesser of two", 4, x.fix(0, 1, 1));
-        // word 7 alone is fewer than words 0 and 1 together
+        // by word 7 alone text 1 is picked, as in room 0; to pick step 3 as room 1 does, its stamps are needed too
         stepOf(x, STAMP, 0, 0, 0);
         stepOf(x, STAMP, 0, 1, 102);
         stepOf(x, PICK, 1, 7, 1, 103);
         x.word(1, 0, 1);
         x.word(1, 1, 1);
         x.word(1, 7, 1);
-        due("the fewer", 128, x.fix(0, 1, 4));
+        due("word 7 alone", 128, x.fix(0, 1, 4));
         due("nothing less will do", 128 | 3, x.fix(1, 0, 4));
     }
 

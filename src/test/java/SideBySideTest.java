@@ -111,6 +111,41 @@ public final class SideBySideTest extends Bench {
         dueChange(x, 1, 1, 199, 0);
     }
 
+    @Says("CHANGES from bytes x to bytes y: the fewest by which x becomes y: a byte put in, taken out, or made another one.")
+    private static void changesOf20BytesFromOneEndTo180AheadOfThem() {
+        BuiltTwice x = new BuiltTwice();
+        for (int from = 0; from < 200; from += 60) {
+            for (int v = from; v < Math.min(from + 60, 200); v++) {
+                x.feed(1, v);
+            }
+            x.text();
+        }
+        stepOf(x, JOIN, 0, 0, 0, 1, 2);
+        int s = stepOf(x, PACK, 0, 0, 3, STEP + 0);
+        x.word(1, 0, 1);
+        due("20 out, 20 in", 40, x.changes(0, 1, s));
+        dueChange(x, 0, 1, 0, 0);
+        dueChange(x, 19, 1, 19, 0);
+        dueChange(x, 20, 2, 200, 180);
+        dueChange(x, 39, 2, 200, 199);
+    }
+
+    @Says("CHANGES from bytes x to bytes y: the fewest by which x becomes y: a byte put in, taken out, or made another one.")
+    private static void fewBytesAreLaidAfterMany() {
+        BuiltTwice x = new BuiltTwice();
+        int many = twoThings(x, "abcdefghi", "rstuvwxyz");
+        int one = twoThings(x, "a", "b");
+        int three = twoThings(x, "abc", "xbz");
+        for (int again = 0; again < 2; again++) {
+            due("many", 9, x.changes(0, 1, many));
+            due("one", 1, x.changes(0, 1, one));
+            dueChange(x, 0, 0, 0, 'b');
+            due("two of three", 2, x.changes(0, 1, three));
+            dueChange(x, 1, 0, 2, 'z');
+            due("one, the other way", 1, x.changes(1, 0, one));
+        }
+    }
+
     @Says("both next bytes are passed if they are like and what is left then can be done by as few;")
     private static void likeBytesArePassedFirst() {
         dueChange(laid("aa", "a", 1), 0, 1, 1, 0);
@@ -171,7 +206,8 @@ public final class SideBySideTest extends Bench {
         x.text();
         int none = stepOf(x, PICK, 0, 0, STEP + 2, 2);
         due("it makes no bytes", 0, x.made(1, none));
-        due("no bytes and failing", 0, x.alike(0, 1, none));
+        due("failing and no bytes", 0, x.alike(0, 1, none));
+        due("no bytes and failing", 0, x.alike(1, 0, none));
     }
 
     @Says("Two STEPS' things (of one STEP in two ROOMS) are ALIKE if both FAIL, or neither and their bytes are the same.")
@@ -358,6 +394,8 @@ public final class SideBySideTest extends Bench {
             x.word(1, w, 1);
         }
         due("step 0 is not used", 1, x.cause(0, 1, 3));
+        due("step 0 has its own", 0, x.cause(0, 1, 0));
+        due("step 0 is not used still", 1, x.cause(0, 1, 3));
         x.word(1, 4, 0);
         due("step 1 is alike now", 2, x.cause(0, 1, 3));
     }
@@ -430,14 +468,17 @@ public final class SideBySideTest extends Bench {
     @Says("FIX: the least set of WORDS (fewest, then the least mask) which, given in q the values they have in p, makes the STEP ALIKE in p and q so changed.")
     private static void fixTakesFewerThoughTheMaskIsGreater() {
         BuiltTwice x = withAAndB();
-        stepOf(x, STAMP, 0, 0, 0);
-        stepOf(x, STAMP, 0, 1, STEP + 0);
-        stepOf(x, PICK, 1, 7, 1, STEP + 1);
+        // a where word 7 is 0, and where words 0 and 1 both are 0; else b
+        stepOf(x, PICK, 1, 0, 0, 1);
+        stepOf(x, PICK, 1, 1, STEP + 0, 1);
+        stepOf(x, PICK, 1, 7, 0, STEP + 1);
         for (int w : new int[] {0, 1, 7}) {
             x.word(1, w, 1);
         }
         due("word 7 alone", 128, x.fix(0, 1, 2));
-        due("all three", 131, x.fix(1, 0, 2));
+        due("words 0 and 1, below it", 3, x.fix(0, 1, 1));
+        x.word(0, 7, 1);
+        due("words 0 and 1, word 7 being the same", 3, x.fix(0, 1, 2));
     }
 
     @Says("FIX: the least set of WORDS (fewest, then the least mask) which, given in q the values they have in p, makes the STEP ALIKE in p and q so changed.")
