@@ -462,15 +462,17 @@ public final class BuiltTwice {
 
     /** Bytes, as ints 0 .. 255, up to a most that is told once. */
     private static final class Row {
-        private final int[] bytes;
+        private final int most;
+        /** Made when the first bytes come: most rows of most objects stay empty, and a new object is cheap. */
+        private int[] bytes = new int[0];
         private int size;
 
         Row(int most) {
-            bytes = new int[Math.max(most, 0)];
+            this.most = Math.max(most, 0);
         }
 
         boolean put(int v) {
-            if (size >= bytes.length) {
+            if (!makeSpaceFor(1)) {
                 return false;
             }
             bytes[size] = v;
@@ -479,11 +481,21 @@ public final class BuiltTwice {
         }
 
         boolean append(Row more) {
-            if (size + more.size > bytes.length) {
+            if (!makeSpaceFor(more.size)) {
                 return false;
             }
             System.arraycopy(more.bytes, 0, bytes, size, more.size);
             size += more.size;
+            return true;
+        }
+
+        private boolean makeSpaceFor(int n) {
+            if (size + n > most) {
+                return false;
+            }
+            if (n > 0 && bytes.length < most) {
+                bytes = new int[most];
+            }
             return true;
         }
 
